@@ -17,6 +17,7 @@ public final class SmithForms {
     private static final int COLUMN_SETS = 32;
     private static final int WITHOUT_GOAL = 0;
     private static final int WITH_GOAL = 16;
+    private static final int SETS_EITHER_WAY = 16;
     private static final int MINORS = 512;
 
     // Euclid's steps on the minors here stay below fifty.
@@ -326,7 +327,7 @@ public final class SmithForms {
         long divisor = 0;
         for (int rowSet = 0; rowSet < ROW_SETS; rowSet++) {
             if (sizeOf(rowSet) == k) {
-                for (int i = 0; i < WITH_GOAL; i++) {
+                for (int i = 0; i < SETS_EITHER_WAY; i++) {
                     divisor = commonDivisor(divisor, minors[rowSet * COLUMN_SETS + firstColumnSet + i]);
                 }
             }

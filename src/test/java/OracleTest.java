@@ -74,7 +74,8 @@ public final class OracleTest {
         }
         checks.due(where + "within(" + t + ")", x.within(t), within ? 1 : 0);
         for (int p = 1; p <= 6; p++) {
-            checks.due(where + "solutions(" + t + ", " + p + ")", x.solutions(t, p), countSolutions(table, target, p, 0, new int[n]));
+            checks.due(where + "solutions(" + t + ", " + p + ")", x.solutions(t, p),
+                    countSolutions(table, target, p, 0, new int[n]));
         }
     }
 

@@ -25,6 +25,11 @@ public final class QuestionsTest {
         return x;
     }
 
+    /** No table has a minor of size 4 that is farther from 0. */
+    private static SmithForms withGreatestMinors() {
+        return with(row(12, 12, 12, 12), row(12, -12, 12, -12), row(12, 12, -12, -12), row(12, -12, -12, 12));
+    }
+
     private static void put(SmithForms x, int t, int[]... rows) {
         for (int row = 0; row < rows.length; row++) {
             for (int column = 0; column < rows[row].length; column++) {
@@ -77,7 +82,8 @@ public final class QuestionsTest {
         checks.due("rank of rows in steps",
                 with(row(1, 2, 3, 4), row(5, 6, 7, 8), row(9, 10, 11, 12), row(-1, -2, -3, -4)).rank(0), 2);
         checks.due("rank 3 of 4", with(row(1, 0, 0, 1), row(0, 1, 0, 1), row(0, 0, 1, 1), row(1, 1, 1, 3)).rank(0), 3);
-        checks.due("rank 1 in the last cell", with(row(0, 0, 0, 0), row(0, 0, 0, 0), row(0, 0, 0, 0), row(0, 0, 0, -7)).rank(0), 1);
+        checks.due("rank 1 in the last cell",
+                with(row(0, 0, 0, 0), row(0, 0, 0, 0), row(0, 0, 0, 0), row(0, 0, 0, -7)).rank(0), 1);
     }
 
     private static void promise10Divisor() {
@@ -97,7 +103,7 @@ public final class QuestionsTest {
         checks.due("divisor above the rows", with(row(6, 10, 0, -4)).divisor(0, 2), 0);
         checks.due("divisor with more rows than columns", with(row(0), row(9), row(-6)).divisor(0, 1), 3);
         checks.due("divisor above the columns", with(row(0), row(9), row(-6)).divisor(0, 2), 0);
-        SmithForms greatest = with(row(12, 12, 12, 12), row(12, -12, 12, -12), row(12, 12, -12, -12), row(12, -12, -12, 12));
+        SmithForms greatest = withGreatestMinors();
         checks.due("greatest divisor 4", greatest.divisor(0, 4), 331776);
         checks.due("divisor 3 beside it", greatest.divisor(0, 3), 6912);
         checks.due("divisor 2 beside it", greatest.divisor(0, 2), 288);
@@ -264,9 +270,7 @@ public final class QuestionsTest {
         checks.due("one class", with(row(1, 0, 5), row(0, 1, 7)).classes(0), 1);
         checks.due("classes with more columns than rows", with(row(4, 0, 2), row(0, 4, 2)).classes(0), 8);
         checks.due("classes is not negative", with(row(0, 3), row(5, 0)).classes(0), 15);
-        checks.due("most classes",
-                with(row(12, 12, 12, 12), row(12, -12, 12, -12), row(12, 12, -12, -12), row(12, -12, -12, 12)).classes(0),
-                331776);
+        checks.due("most classes", withGreatestMinors().classes(0), 331776);
     }
 
     private static void promise17Determinant() {
@@ -277,12 +281,10 @@ public final class QuestionsTest {
         checks.due("determinant of three in a round", with(row(0, 1, 0), row(0, 0, 1), row(1, 0, 0)).determinant(0), 1);
         checks.due("determinant of four in a round",
                 with(row(0, 1, 0, 0), row(0, 0, 1, 0), row(0, 0, 0, 1), row(1, 0, 0, 0)).determinant(0), -1);
-        checks.due("greatest determinant",
-                with(row(12, 12, 12, 12), row(12, -12, 12, -12), row(12, 12, -12, -12), row(12, -12, -12, 12)).determinant(0),
-                331776);
-        checks.due("least determinant",
-                with(row(12, -12, 12, -12), row(12, 12, 12, 12), row(12, 12, -12, -12), row(12, -12, -12, 12)).determinant(0),
-                -331776);
+        SmithForms greatest = withGreatestMinors();
+        checks.due("greatest determinant", greatest.determinant(0), 331776);
+        put(greatest, 0, row(12, -12, 12, -12), row(12, 12, 12, 12));
+        checks.due("least determinant", greatest.determinant(0), -331776);
         checks.due("determinant of rank 1", with(row(1, 2), row(2, 4)).determinant(0), 0);
         checks.due("determinant of nothing but 0", new SmithForms(4, 4).determinant(1), 0);
         for (int m = 1; m <= 4; m++) {
