@@ -36,6 +36,7 @@ public final class LanguageTest {
         String text = Files.readString(Path.of("src/main/java/SmithForms.java"));
         List<String> tokens = tokensOf(text.replaceAll("(?s)/\\*.*?\\*/", " ").replaceAll("//[^\n]*", " "));
         theWords(tokens);
+        whereArraysAreMade(tokens);
         noCallInsideArguments(tokens);
         noRecursionAndNoDeepCalls(tokens);
         checks.end();
@@ -101,14 +102,37 @@ public final class LanguageTest {
     }
 
     private static void theWords(List<String> tokens) {
-        int depth = 0;
         for (int i = 0; i < tokens.size(); i++) {
             String token = tokens.get(i);
-            depth += token.equals("{") ? 1 : token.equals("}") ? -1 : 0;
             checks.holds("no word '" + token + "'", !WORDS_LEFT_OUT.contains(token));
-            checks.holds("no '" + token + "'", !token.equals("->") && !token.equals("::") && !token.equals("."));
-            if (token.equals("new")) {
-                checks.due("arrays are made in a field's initialiser alone: depth", depth, 1);
+            checks.holds("no method reference", !token.equals("::"));
+            checks.holds("no lambda", !token.equals("->") || isCaseArrow(tokens, i));
+            if (token.equals(".")) {
+                checks.holds("a dot stands only in this.field and array.length",
+                        tokens.get(i - 1).equals("this") || tokens.get(i + 1).equals("length"));
+            }
+        }
+    }
+
+    private static boolean isCaseArrow(List<String> tokens, int arrow) {
+        int i = arrow;
+        while (!Set.of("case", "default", ";", "{", "}", "(").contains(tokens.get(i))) {
+            i--;
+        }
+        return Set.of("case", "default").contains(tokens.get(i));
+    }
+
+    private static void whereArraysAreMade(List<String> tokens) {
+        int depth = 0;
+        String method = "";
+        for (int i = 0; i < tokens.size(); i++) {
+            depth += tokens.get(i).equals("{") ? 1 : tokens.get(i).equals("}") ? -1 : 0;
+            if (depth == 1 && isCall(tokens, i)) {
+                method = tokens.get(i);
+            }
+            if (tokens.get(i).equals("new")) {
+                checks.holds("arrays are made in a field's initialiser, or in the constructor outside all blocks",
+                        depth == 1 || depth == 2 && method.equals("SmithForms"));
             }
         }
     }
