@@ -175,8 +175,14 @@ public final class TermsTest {
                 }
             }
         }
-        SmithForms whole = Tables.with(Tables.row(1, 2, 0), Tables.row(0, 1, 3), Tables.row(2, 0, 1));
-        checks.due("the one minor of size 3", whole.divisor(0, 3), 13);
+        checks.due("a minor of size 1 is the number itself", Tables.with(Tables.row(-11)).divisor(0, 1), 11);
+        SmithForms two = Tables.with(Tables.row(1, 2), Tables.row(3, 4));
+        checks.due("the one minor of size 2 of 2 by 2", two.divisor(0, 2), 2);
+        SmithForms three = Tables.with(Tables.row(1, 2, 3), Tables.row(4, 5, 6), Tables.row(7, 8, 12));
+        checks.due("the one minor of size 3 of 3 by 3", three.divisor(0, 3), 9);
+        SmithForms four = Tables.with(Tables.row(1, 1, 1, 1), Tables.row(1, 2, 3, 4), Tables.row(1, 4, 9, 12),
+                Tables.row(1, 8, 1, 10));
+        checks.due("the one minor of size 4 of 4 by 4", four.divisor(0, 4), 4);
     }
 
     private static void choiceDue(int m, int n, int rowSet, int columnSet) {
@@ -322,15 +328,19 @@ public final class TermsTest {
         }
     }
 
-    /** Tables of all sizes whose rows bend in many ways. */
+    /** Tables of all sizes, from those whose numbers have nothing in common to those of nothing but 0, 12 and -12. */
     private static List<SmithForms> someObjects() {
         List<SmithForms> objects = new ArrayList<>();
-        for (int number = 0; number < 400; number++) {
+        for (int number = 0; number < 480; number++) {
+            int scale = new int[] {1, 2, 3, 4, 6, 12}[number / 16 % 6];
+            int reach = 12 / scale;
             SmithForms x = new SmithForms(1 + number % 4, 1 + number / 4 % 4);
             for (int at = 0; at < 16; at++) {
-                x.set(0, at, (number * (3 * at + 1) + at * at) % 25 - 12);
+                x.set(0, at, scale * ((number * (3 * at + 1) + at * at) % (2 * reach + 1) - reach));
             }
-            x.fill(0, number % 3, number % 5 - 2, Tables.bent(number % 7 - 3, number % 2));
+            if (scale == 1) {
+                x.fill(0, number % 3, number % 5 - 2, Tables.bent(number % 7 - 3, number % 2));
+            }
             objects.add(x);
         }
         return objects;
@@ -429,12 +439,15 @@ public final class TermsTest {
         return 9 + 9 + 3;
     }
 
+    /** First what tells the most by one call, so that a question that changes something can't hide it here too. */
     private static List<Long> allSeenOf(SmithForms x) {
         List<Long> seen = new ArrayList<>();
+        for (int cell = 0; cell < 18; cell++) {
+            seen.add((long) x.get(cell / 9, cell % 9 / 3, cell % 3));
+        }
+        seen.add((long) x.reaches(0));
+        seen.add((long) x.multiple(1));
         for (int t = 0; t <= 1; t++) {
-            for (int cell = 0; cell < 9; cell++) {
-                seen.add((long) x.get(t, cell / 3, cell % 3));
-            }
             for (Call question : questions(t).values()) {
                 seen.add(question.on(x));
             }
