@@ -30,7 +30,7 @@ final class Sentences {
         }
     }
 
-    private static String documentText() {
+    static String documentText() {
         try {
             return Files.readString(DOCUMENT);
         } catch (IOException e) {

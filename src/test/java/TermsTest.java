@@ -4,8 +4,9 @@ import java.util.LinkedHashMap;
 import java.util.List;
 import java.util.Map;
 
-/** The section 'Terms' and the bound on calls, sentence by sentence: what holds for all promises alike. */
+/** The sections 'What it is' and 'Terms', sentence by sentence: what holds for all promises alike. */
 public final class TermsTest {
+    private static final String WHAT_IT_IS = "What it is";
     private static final String TERMS = "Terms";
     private static final int CALLS = 512;
 
@@ -17,13 +18,21 @@ public final class TermsTest {
     }
 
     public static void main(String[] args) {
-        doc.test("What it is", "An object is used for at most 512 calls after it has been made",
-                TermsTest::theLastCallCounts);
+        whatItIs();
         tablesAndCombinations();
         minorsAndWhatIsMadeOfThem();
         whatHoldsForAllMethods();
+        doc.nothingLeftOf(WHAT_IT_IS);
         doc.nothingLeftOf(TERMS);
         checks.end();
+    }
+
+    private static void whatItIs() {
+        doc.test(WHAT_IT_IS, "Tables of whole numbers: ranks, common divisors of minors, and which whole-numbered"
+                + " combinations of columns there are.", TermsTest::oneTableAskedForEach);
+        doc.test(WHAT_IT_IS, "An object is used for at most 512 calls after it has been made",
+                TermsTest::theLastCallCounts);
+        doc.test(WHAT_IT_IS, "what later calls answer is free.", TermsTest::laterCallsAreTheObjectsOwn);
     }
 
     private static void tablesAndCombinations() {
@@ -61,7 +70,17 @@ public final class TermsTest {
         doc.test(TERMS, "All numbers that are answered fit into a long.", TermsTest::greatestNumbers);
     }
 
-    // ---- the bound on calls
+    // ---- what it is, and the bound on calls
+
+    private static void oneTableAskedForEach() {
+        SmithForms x = Tables.with(Tables.row(2, 4, 6), Tables.row(0, 3, 3));
+        checks.due("rank(0)", x.rank(0), 2);
+        checks.due("divisor(0, 1)", x.divisor(0, 1), 1);
+        checks.due("divisor(0, 2)", x.divisor(0, 2), 6);
+        reachedDue(x, 1, 2, -3);
+        reachedDue(x, 0, 1, 3);
+        reachedDue(x, 0, 2, 1);
+    }
 
     private static void theLastCallCounts() {
         Map<String, Call> lasts = new LinkedHashMap<>(questions(1));
@@ -81,6 +100,22 @@ public final class TermsTest {
             checks.due("as call " + call + ", set(0, 0, " + value + ")", busy.set(0, 0, value), 0);
             checks.due("as call " + (call + 1) + ", get(0, 0, 0)", busy.get(0, 0, 0), value);
         }
+    }
+
+    /** Free is what the calls answer, not what other objects do; that no call throws is AnyArgumentsTest's matter. */
+    private static void laterCallsAreTheObjectsOwn() {
+        SmithForms before = tellingObject();
+        SmithForms old = tellingObject();
+        for (int call = callsOfTellingObject(); call < 3 * CALLS; call++) {
+            old.set(call % 2, call % 16, call % 12);
+            old.aim(call % 3, call % 200);
+            old.mirror(call % 2);
+            old.multiple(call % 2);
+        }
+        List<Long> due = allSeenOf(tellingObject());
+        checks.holds("an object made before is as it was", allSeenOf(before).equals(due));
+        checks.due("reaches(0) of a new object", tellingObject().reaches(0), 1);
+        checks.due("multiple(1) of a new object", tellingObject().multiple(1), 80);
     }
 
     // ---- tables, target, combinations
