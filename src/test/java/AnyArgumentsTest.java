@@ -11,6 +11,9 @@ public final class AnyArgumentsTest {
     private static final int[] NUMBERS = {Integer.MIN_VALUE, Integer.MIN_VALUE + 1, -(1 << 30), -201, -200, -33, -13,
         -12, -5, -1, 0, 1, 2, 3, 4, 5, 6, 7, 12, 15, 16, 200, 396, 1 << 28, 1 << 30, Integer.MAX_VALUE};
 
+    /** Each method alone comes to more calls than an object is promised to answer. */
+    private static final long LEAST_CALLS = 1000;
+
     private static final Checks checks = new Checks();
 
     public static void main(String[] args) throws IllegalAccessException {
@@ -53,7 +56,9 @@ public final class AnyArgumentsTest {
         for (int i = 0; i < arguments.length; i++) {
             choices *= NUMBERS.length;
         }
-        for (long choice = 0; choice < choices; choice++) {
+        long calls = Math.max(choices, LEAST_CALLS);
+        long answered = 0;
+        for (long choice = 0; choice < calls; choice++) {
             long rest = choice;
             for (int i = 0; i < arguments.length; i++) {
                 arguments[i] = NUMBERS[(int) (rest % NUMBERS.length)];
@@ -61,10 +66,11 @@ public final class AnyArgumentsTest {
             }
             try {
                 method.invoke(x, arguments);
+                answered++;
             } catch (InvocationTargetException e) {
-                checks.holds(method.getName() + Arrays.toString(arguments) + " does not throw " + e.getCause(), false);
+                checks.holds(method.getName() + Arrays.toString(arguments) + " answers, no " + e.getCause(), false);
             }
         }
-        checks.holds(method.getName() + " was called", choices > 0);
+        checks.due("calls of " + method.getName() + " that answered", answered, calls);
     }
 }

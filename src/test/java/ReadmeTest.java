@@ -55,8 +55,10 @@ public final class ReadmeTest {
         for (String line : lines.subList(1, lines.size())) {
             Matcher call = CALL.matcher(line);
             checks.holds("a call with its answer: " + line, call.matches());
-            calls.add(call.group(1));
-            due.add(Long.valueOf(call.group(2)));
+            if (call.matches()) {
+                calls.add(call.group(1));
+                due.add(Long.valueOf(call.group(2)));
+            }
         }
         long[] answers = answersOf(lines.get(0), calls);
         for (int i = 0; i < answers.length; i++) {
